@@ -1134,12 +1134,12 @@ public final class BoxFlow {
                 most[0][w] = counts.tokens[w];
                 hold += counts.tokens[w];
             }
-            tryAll(0, hold);
+            followAll(0, hold);
             return best == Integer.MAX_VALUE ? NOT : best;
         }
 
         /** HOLD only grows, so an order that isn't below the best one already isn't followed. */
-        private void tryAll(int made, int hold) {
+        private void followAll(int made, int hold) {
             if (made >= total) {
                 best = hold;
                 return;
@@ -1153,7 +1153,7 @@ public final class BoxFlow {
                     counts.fireBox(b);
                     int grown = raiseMost(made);
                     if (grown < best) {
-                        tryAll(made + 1, grown);
+                        followAll(made + 1, grown);
                     }
                     counts.takeBack(b);
                     left[b]++;
