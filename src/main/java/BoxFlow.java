@@ -46,8 +46,8 @@ public final class BoxFlow {
         kept = new Sheet();
         isKept = false;
         trial = new Net();
-        schedule = new Schedule(now.net);
-        orders = new Orders(now.net);
+        schedule = new Schedule();
+        orders = new Orders();
         text = new Text();
         tapes = new Tape[TAPES];
         for (int t = 0; t < TAPES; t++) {
@@ -282,7 +282,7 @@ public final class BoxFlow {
     }
 
     public long then(int n, int wire, int k) {
-        if (n < 0 || n > MOST_PERIODS || !now.net.hasWire(wire) || !now.net.wires[wire].holds(k)) {
+        if (n < 0 || n > MOST_PERIODS || !now.net.hasWire(wire)) {
             return NO;
         }
         trial.copyFrom(now.net);
@@ -916,21 +916,18 @@ public final class BoxFlow {
     /** How many tokens each wire of a net has; nothing else decides which boxes can fire. */
     private static final class Counts {
         final int[] tokens;
-        private Net net;
 
-        Counts(Net anyNet) {
+        Counts() {
             tokens = new int[MOST_WIRES];
-            net = anyNet;
         }
 
-        void load(Net newNet) {
-            net = newNet;
+        void load(Net net) {
             for (int w = 0; w < MOST_WIRES; w++) {
                 tokens[w] = net.wires[w].size;
             }
         }
 
-        boolean canFire(int box) {
+        boolean canFire(Net net, int box) {
             for (int w = 0; w < MOST_WIRES; w++) {
                 Wire wire = net.wires[w];
                 if (wire.goesTo(box) && tokens[w] < wire.takes) {
@@ -943,13 +940,13 @@ public final class BoxFlow {
             return true;
         }
 
-        void fireBox(int box) {
+        void fireBox(Net net, int box) {
             for (int w = 0; w < MOST_WIRES; w++) {
                 tokens[w] += net.wires[w].changeBy(box);
             }
         }
 
-        void takeBack(int box) {
+        void takeBack(Net net, int box) {
             for (int w = 0; w < MOST_WIRES; w++) {
                 tokens[w] -= net.wires[w].changeBy(box);
             }
@@ -972,18 +969,18 @@ public final class BoxFlow {
         private final int[] left;
         private final Counts counts;
 
-        Schedule(Net anyNet) {
+        Schedule() {
             times = new int[MOST_BOXES];
             order = new int[MOST_FIRINGS];
             held = new int[MOST_WIRES];
             lot = new int[MOST_BOXES];
             left = new int[MOST_BOXES];
-            counts = new Counts(anyNet);
+            counts = new Counts();
         }
 
         boolean canFire(Net net, int box) {
             counts.load(net);
-            return counts.canFire(box);
+            return counts.canFire(net, box);
         }
 
         boolean goes() {
@@ -1014,27 +1011,27 @@ public final class BoxFlow {
             System.arraycopy(times, 0, left, 0, MOST_BOXES);
             System.arraycopy(counts.tokens, 0, held, 0, MOST_WIRES);
             for (int k = 0; k < total && k < MOST_FIRINGS && !stands; k++) {
-                int box = firstReady();
+                int box = firstReady(net);
                 if (box == NONE) {
                     stands = true;
                 } else {
-                    noteFiring(box);
+                    followFiring(net, box);
                 }
             }
         }
 
-        private int firstReady() {
+        private int firstReady(Net net) {
             for (int b = 0; b < MOST_BOXES; b++) {
-                if (left[b] > 0 && counts.canFire(b)) {
+                if (left[b] > 0 && counts.canFire(net, b)) {
                     return b;
                 }
             }
             return NONE;
         }
 
-        private void noteFiring(int box) {
+        private void followFiring(Net net, int box) {
             left[box]--;
-            counts.fireBox(box);
+            counts.fireBox(net, box);
             order[firings] = box;
             firings++;
             for (int w = 0; w < MOST_WIRES; w++) {
@@ -1118,8 +1115,8 @@ public final class BoxFlow {
         private int total;
         private int best;
 
-        Orders(Net anyNet) {
-            counts = new Counts(anyNet);
+        Orders() {
+            counts = new Counts();
             left = new int[MOST_BOXES];
             most = new int[LEAST_FIRINGS + 1][MOST_WIRES];
         }
@@ -1134,12 +1131,12 @@ public final class BoxFlow {
                 most[0][w] = counts.tokens[w];
                 hold += counts.tokens[w];
             }
-            followAll(0, hold);
+            followAll(net, 0, hold);
             return best == Integer.MAX_VALUE ? NOT : best;
         }
 
         /** HOLD only grows, so an order that isn't below the best one already isn't followed. */
-        private void followAll(int made, int hold) {
+        private void followAll(Net net, int made, int hold) {
             if (made >= total) {
                 best = hold;
                 return;
@@ -1148,14 +1145,14 @@ public final class BoxFlow {
                 return;
             }
             for (int b = 0; b < MOST_BOXES; b++) {
-                if (left[b] > 0 && counts.canFire(b)) {
+                if (left[b] > 0 && counts.canFire(net, b)) {
                     left[b]--;
-                    counts.fireBox(b);
+                    counts.fireBox(net, b);
                     int grown = raiseMost(made);
                     if (grown < best) {
-                        followAll(made + 1, grown);
+                        followAll(net, made + 1, grown);
                     }
-                    counts.takeBack(b);
+                    counts.takeBack(net, b);
                     left[b]++;
                 }
             }

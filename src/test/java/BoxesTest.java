@@ -31,6 +31,9 @@ public final class BoxesTest {
         CHECK.due("new of", x.of(0, 0), -1);
         CHECK.due("new about", x.about(0, 0), -1);
         CHECK.due("new looked", x.looked(), -5);
+        for (int what = 0; what <= 5; what++) {
+            CHECK.due("new told " + what, x.told(what), 0);
+        }
         CHECK.due("new graph", x.graph(), -10);
         for (int tape = 0; tape < 6; tape++) {
             CHECK.due("new item", x.item(tape, 0, 1), -11);
@@ -190,6 +193,9 @@ public final class BoxesTest {
         far.cut(3);
         far.wire(3, 4, 3, 3);
         CHECK.due("even", far.told(1), 1 + 4 + 16 + 48 + 48);
+        CHECK.due("so many go", far.told(2), 0);
+        CHECK.due("the last one", far.when(116), 4);
+        CHECK.due("no more", far.when(117), -5);
 
         BoxFlow sixty = Check.boxes(0, 0, 0, 0, 0, 0, 0, 0);
         sixty.wire(0, 1, 4, 1);
@@ -302,6 +308,11 @@ public final class BoxesTest {
         CHECK.due("held till it stands", x.about(0, 5), 2);
         CHECK.due("held at first", x.about(1, 5), 3);
         CHECK.due("hold till it stands", x.told(3), 5);
+        x.wire(1, 1, 1, 1);
+        Check.tokens(x, 2, 1, 2);
+        CHECK.due("hold of all", x.told(3), 7);
+        x.cut(2);
+        CHECK.due("a cut wire holds nothing", x.told(3), 5);
         x.wire(0, 0, 1, 2);
         CHECK.due("uneven", x.about(0, 5), -5);
         CHECK.due("uneven", x.told(3), -5);
@@ -336,6 +347,13 @@ public final class BoxesTest {
         twenty.wire(1, 0, 4, 4);
         Check.tokens(twenty, 1, 1);
         CHECK.due("0 is enough", twenty.about(0, 6), 0);
+
+        BoxFlow six = Check.boxes(0, 0, 0, 0, 0, 0, 0, 0, 0, 0, 0, 0);
+        Check.graph(six, "0:4>1:3;1:1>2:1;2:4>3:4;3:1>4:3;4:3>5:2;5:3>0:2");
+        CHECK.due("20", six.about(2, 6), 20);
+        six = Check.boxes(0, 0, 0, 0, 0, 0, 0, 0, 0, 0, 0, 0);
+        Check.graph(six, "0:4>1:1;1:2>2:3;2:3>3:1;3:2>4:3;4:3>5:4;5:1>0:4");
+        CHECK.due("21 is above 20", six.about(3, 6), -5);
 
         BoxFlow full = Check.boxes(0, 0, 0, 0);
         full.wire(0, 1, 1, 1);

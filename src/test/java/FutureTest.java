@@ -106,6 +106,14 @@ public final class FutureTest {
         CHECK.due("50 and 4", x.fits(0, 1), 4);
         x.see(1, 4, 58);
         CHECK.due("50 and 4 and 4", x.fits(0, 1), 4);
+        x.see(1, 4, 58);
+        x.see(1, 4, 58);
+        CHECK.due("five rows", x.fits(0, 0), 1);
+        x.see(-1, 0, 0);
+        x.see(1, 4, 59);
+        CHECK.due("no v twice is 9", x.fits(0, 0), 0);
+        x.see(-1, 0, 0);
+        x.see(1, 1, 9);
         x.see(1, 3, 14);
         CHECK.due("5 and 4 and 4 is 13", x.fits(0, 0), 0);
         CHECK.due("none", x.fits(0, 1), -5);
@@ -141,6 +149,9 @@ public final class FutureTest {
         x.see(1, 0, 50);
         x.wire(1, 1, 1, 2);
         CHECK.due("uneven, but no period must go", x.fits(0, 0), 10);
+        x.see(1, 1, 50);
+        CHECK.due("uneven, and as now", x.fits(0, 0), 0);
+        x.see(-1, 0, 0);
         x.see(1, 1, 6);
         CHECK.due("uneven", x.fits(0, 0), 0);
         x.cut(2);
@@ -196,7 +207,10 @@ public final class FutureTest {
         x.wire(0, 0, 1, 1);
         x.wire(0, 0, 1, 1);
         CHECK.due("none", x.mean(1), NO);
-        Check.tokens(x, 0, -4, -6);
+        Check.tokens(x, 0, -4);
+        CHECK.due("-4 by 1", x.mean(0), -4);
+        CHECK.due("-4 by 1", x.mean(1), 1);
+        Check.tokens(x, 0, -6);
         Check.tokens(x, 1, 1, -1);
         CHECK.due("-10 by 4", x.mean(0), -5);
         CHECK.due("-10 by 4", x.mean(1), 2);
