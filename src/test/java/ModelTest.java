@@ -2,7 +2,7 @@ import java.util.Random;
 
 /** Long runs of calls, the same every time, on the class and on the Model: every answer must be the same. */
 public final class ModelTest {
-    private static final int RUNS = 600, CALLS = 511;
+    private static final int RUNS = 1600, CALLS = 512;
     private static final int[] ODD = {-1, -2, 6, 8, 10, 61, 100, 128, Integer.MIN_VALUE, Integer.MAX_VALUE};
 
     private final Check check;
@@ -10,6 +10,7 @@ public final class ModelTest {
     private final Random random;
     private final BoxFlow x = new BoxFlow();
     private final Model m = new Model();
+    private int calls = 0;
     private final int[] times = new int[6];
     /** The runs differ in how many tokens and boxes come and in how often a wire's rates fit no times. */
     private final int tokenShare;
@@ -38,8 +39,8 @@ public final class ModelTest {
     }
 
     private void play() {
-        for (int call = 0; call < CALLS; call++) {
-            if (call < 40 || below(12) == 0) {
+        for (int step = 0; calls < CALLS; step++) {
+            if (step < 40 || below(12) == 0) {
                 build();
             } else if (below(3) == 0) {
                 change();
@@ -62,8 +63,12 @@ public final class ModelTest {
         return below(6) == 0 ? random.nextInt() : below(20) - 5;
     }
 
+    /** What calls behind the 512th answer is free. */
     private void due(String call, long got, long want) {
-        check.due("run " + run + ": " + call, got, want);
+        calls++;
+        if (calls <= CALLS) {
+            check.due("run " + run + ": " + call, got, want);
+        }
     }
 
     private void build() {
