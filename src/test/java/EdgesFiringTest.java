@@ -229,6 +229,9 @@ public final class EdgesFiringTest {
         CHECK.due("9999 at most", x.of(0, 2), 9999);
         CHECK.due("it can fire", x.of(0, 4), 1);
         CHECK.due("its tokens came", x.about(0, 4), 11);
+        x.plan(0, 0);
+        x.plan(0, 0);
+        CHECK.due("in a plan, too", x.ends(1), 9 * (9 * 9994 + 4 * 9999));
         x.image();
         x.undo();
         CHECK.due("in the image, too", x.of(0, 2), 9999);
@@ -416,8 +419,13 @@ public final class EdgesFiringTest {
         }
         x.cut(7);
         CHECK.due("without the one that is cut", x.told(3), 7);
+        States.fill(x, 6, 5);
+        CHECK.due("6 and 6", x.told(3), 12);
+        x.cut(6);
+        CHECK.due("without the one that is cut, and its tokens", x.told(3), 6);
+        CHECK.due("least, too", x.told(4), 6);
         States.fill(x, 0, 98);
-        CHECK.due("98 and 1, and 6", x.told(3), 105);
+        CHECK.due("98 and 1, and 5", x.told(3), 104);
         x.token(0, 0);
         CHECK.due("no room: as it is", x.told(3), 99);
     }

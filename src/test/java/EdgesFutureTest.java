@@ -19,6 +19,7 @@ public final class EdgesFutureTest {
         thenPlaces();
         thenFewer();
         thenFired();
+        thenWraps();
         thenRefusals();
         seeNumbers();
         seeFiveRows();
@@ -177,6 +178,16 @@ public final class EdgesFutureTest {
             CHECK.due("then " + n, x.then(n, 0, 0), want[n]);
         }
         CHECK.due("fired is as it was", x.of(0, 2), 2);
+    }
+
+    /** What wraps in a firing wraps in what would be, too. */
+    private static void thenWraps() {
+        BoxFlow x = Check.boxes(0, 1);
+        x.wire(0, 0, 1, 1);
+        x.token(0, MAX - 1);
+        CHECK.due("one", x.then(1, 0, 0), MAX);
+        CHECK.due("two", x.then(2, 0, 0), MIN);
+        CHECK.due("three", x.then(3, 0, 0), MIN + 1);
     }
 
     private static void thenRefusals() {

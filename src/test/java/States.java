@@ -1,6 +1,6 @@
 /** Objects in states that refusals are tried on. Each is made by fewer than 270 calls, so that some are left to ask. */
 final class States {
-    /** 99 bytes of the text that is full, and the whole of it, which is a graph. */
+    /** A graph of 100 bytes, as many as THE TEXT has at most. */
     static final String LONG = "0:1>0:1+111,222,333,444,555,666;0:2>1:2+111,222,333,444,555,666;1:1>0:1+111,222,333,44,55,66;0:3>0:3";
 
     private States() {
